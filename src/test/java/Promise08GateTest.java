@@ -11,7 +11,7 @@ public final class Promise08GateTest {
 
     private static void gate(Check check) {
         CordBay bay = new CordBay();
-        // 1 is 32 eighths of 8: KNOBS 8 and -8 stand for 1 and -1.
+        // KNOBS 8 and -8 stand for 1 and -1, which the table has as 256 and -256.
         int source = Kinds.source(bay, Kinds.DOUBLES, 0, 255, 256, 0, -255, Kinds.LEAST, -256, 0,
             Kinds.LEAST, 257, -257, 256000000);
         int gate = Kinds.behind(bay, source, Kinds.GATE, 8, -8);

@@ -25,6 +25,15 @@ public final class Promise02ModuleTest {
         check.due("module(11, 0) of a full bay", bay.module(11, 0), -1);
         check.due("module(0, 5) of a full bay", bay.module(0, 5), -1);
         check.due("count(0)", bay.count(0), 24);
+        check.due("from(24, 0)", bay.from(24, 0), -2);
+        check.due("knob(24, 0, 0)", bay.knob(24, 0, 0), -2000);
+        check.due("cord(24, 0, 0)", bay.cord(24, 0, 0), -1);
+        check.due("cord(0, 24, 0)", bay.cord(0, 24, 0), -1);
+        check.due("take(24)", bay.take(24), -1);
+        check.due("row(24, 0)", bay.row(24, 0), -2);
+        check.due("sample(24, 0)", bay.sample(24, 0), 0);
+        check.due("isNone(24, 0)", bay.isNone(24, 0), false);
+        check.due("order(24)", bay.order(24), -1);
         check.end();
     }
 }

@@ -4,6 +4,7 @@ public final class Promise08GateTest {
         Check check = new Check();
         gate(check);
         gateFindings(check);
+        gateTakenBack(check);
         switching(check);
         switchFindings(check);
         check.end();
@@ -45,6 +46,27 @@ public final class Promise08GateTest {
         bay.block(3);
         bay.cord(delay, gate, 0);
         check.dueFinding(bay, 5, 3, gate, 3);
+    }
+
+    /** UP is as it was ahead of a block that was taken back, or that failed. */
+    private static void gateTakenBack(Check check) {
+        CordBay bay = new CordBay();
+        int source = Kinds.source(bay, Kinds.DOUBLES, 0, 0, 300, 0);
+        int gate = Kinds.behind(bay, source, Kinds.GATE, 8, -8);
+        bay.block(1);
+        bay.block(1);
+        check.dueRow(bay, gate, Kinds.GATES, 1);
+        bay.back(1);
+        bay.write(0, 1, 0);
+        bay.block(1);
+        check.dueRow(bay, gate, Kinds.GATES, 0);
+        bay.write(0, 2, 300);
+        int lone = bay.module(Kinds.SHAPE, 0);
+        check.dueFinding(bay, 1, 1, lone, -1);
+        bay.cord(source, lone, 0);
+        bay.write(0, 2, 0);
+        bay.block(1);
+        check.dueRow(bay, gate, Kinds.GATES, 0);
     }
 
     private static void switching(Check check) {

@@ -5,6 +5,7 @@ public final class Promise13EqualTest {
         kindsAndLengths(check);
         zeros(check);
         noNumbers(check);
+        firstSample(check);
         lastSample(check);
         check.end();
     }
@@ -83,6 +84,16 @@ public final class Promise13EqualTest {
         check.due("equal, each NO NUMBER to each", bay.equal(1, 2), 1);
         check.due("equal of NO NUMBER and 0", bay.equal(1, 3), 0);
         check.due("equal of 0 and NO NUMBER", bay.equal(3, 2), 0);
+    }
+
+    private static void firstSample(Check check) {
+        CordBay bay = new CordBay();
+        int a = Kinds.source(bay, Kinds.INTS, 0, 1, 7);
+        int b = Kinds.source(bay, Kinds.INTS, 1, 2, 7);
+        bay.block(2);
+        bay.take(a);
+        bay.take(b);
+        check.due("equal(1, 2)", bay.equal(1, 2), 0);
     }
 
     private static void lastSample(Check check) {

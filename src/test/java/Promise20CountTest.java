@@ -40,8 +40,19 @@ public final class Promise20CountTest {
         check.due("count(39)", bay.count(39), -1);
         check.due("count(63)", bay.count(63), Kinds.GATE);
         check.due("count(64)", bay.count(64), -1);
+        cordsOfModuleZero(check);
         manyBlocks(check);
         check.end();
+    }
+
+    private static void cordsOfModuleZero(Check check) {
+        CordBay bay = new CordBay();
+        bay.module(Kinds.SHAPE, 0);
+        bay.module(Kinds.DELAY, 0);
+        bay.cord(1, 0, 0);
+        bay.cord(1, 0, 1);
+        bay.cord(1, 1, 1);
+        check.due("count(1)", bay.count(1), 3);
     }
 
     private static void manyBlocks(Check check) {

@@ -1,8 +1,18 @@
 /** Counts and prints the answers that are not the ones that are due; ends a test with exit code 1. */
 final class Check {
+    private int asked;
     private int wrong;
 
+    int asked() {
+        return asked;
+    }
+
+    int wrong() {
+        return wrong;
+    }
+
     void due(String call, double got, double want) {
+        asked++;
         if (got != want) {
             wrong++;
             System.out.println("  " + call + " answered " + got + ", due is " + want);

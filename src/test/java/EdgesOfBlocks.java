@@ -341,7 +341,7 @@ final class EdgesOfBlocks {
         });
         doc.test(8, sentence, check -> {
             Twins twins = new Twins();
-            for (int i = 0; i < 20; i++) {
+            for (int i = 0; i < 10; i++) {
                 check.dueFinding(twins.bay, 16, 3, Twins.MIX, 4);
             }
             twins.dueAlikeFromHere(check);

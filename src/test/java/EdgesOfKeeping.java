@@ -138,10 +138,12 @@ final class EdgesOfKeeping {
 
     private static void backAnswers(Sentences doc) {
         doc.test(9, "Answers how many can still be taken back.", check -> {
-            for (int blocks = 1; blocks <= 10; blocks++) {
+            for (int blocks = 1; blocks <= 30; blocks++) {
                 for (int n = 1; n <= Math.min(8, blocks); n++) {
                     CordBay bay = numbered(blocks);
                     check.due("back(" + n + ") of " + blocks, bay.back(n), Math.min(8, blocks) - n);
+                    int latest = blocks == n ? 0 : (blocks - n - 1) % 15 + 1;
+                    check.due("sample(0, 0), the block that is now the latest", bay.sample(0, 0), latest);
                     check.due("count(3)", bay.count(3), Math.min(8, blocks) - n);
                     check.due("count(2)", bay.count(2), blocks - n);
                 }
@@ -246,7 +248,9 @@ final class EdgesOfKeeping {
             }
             twins.dueAlike(check);
             CordBay bay = new CordBay();
-            check.due("recall(7)", bay.recall(7), -2);
+            for (int p = 0; p < 8; p++) {
+                check.due("recall(" + p + ")", bay.recall(p), -2);
+            }
             bay.keep(6);
             check.due("recall(7), another one keeps something", bay.recall(7), -2);
             bay.keep(7);

@@ -326,7 +326,7 @@ final class EdgesOfQuestions {
             + " questions.", check -> {
             Twins twins = new Twins();
             CordBay bay = twins.bay;
-            for (int i : new int[] {-1, 0, 3, 9, 10, 24, 40, 64, MIN, MAX}) {
+            for (int i : new int[] {-1, 0, 3, 10, 40, MIN, MAX}) {
                 bay.row(i, i);
                 bay.row(0, i);
                 bay.sample(i, i);

@@ -59,9 +59,10 @@ final class Twins {
 
     /** As dueAlikeFromHere, but where the bays differ in how many blocks can be taken back. */
     void dueRowsAlike(Check check) {
-        for (int block = 0; block < 6; block++) {
-            dueSame(check, rows(bay), rows(other));
+        dueSame(check, rows(bay), rows(other));
+        for (int block = 0; block < 2; block++) {
             check.due("block", bay.block(LENGTH), other.block(LENGTH));
+            dueSame(check, rows(bay), rows(other));
         }
     }
 
@@ -86,7 +87,7 @@ final class Twins {
         for (int what = 0; what <= 4; what++) {
             told.add("count(" + what + ") " + bay.count(what));
         }
-        for (int m = 0; m < bay.count(0); m++) {
+        for (int m = 0; m < BEYOND; m++) {
             told.add("order(" + m + ") " + bay.order(m) + ", kind " + bay.count(40 + m));
             told.add("from(" + m + ") " + bay.from(m, 0) + " " + bay.from(m, 1) + " " + bay.from(m, 2));
             for (int k = 0; k < 3; k++) {
@@ -100,7 +101,7 @@ final class Twins {
 
     private static List<String> rows(CordBay bay) {
         List<String> told = new ArrayList<>();
-        for (int m = 0; m < bay.count(0); m++) {
+        for (int m = 0; m < BEYOND; m++) {
             told.add("count(10 + " + m + ") " + bay.count(10 + m));
             told.add("row(" + m + ") " + bay.row(m, 0) + " " + bay.row(m, 1) + " " + bay.row(m, 3));
             for (int i = 0; i < LENGTH; i++) {
